@@ -1,0 +1,163 @@
+import java.util.function.IntSupplier;
+
+/** What the tests share: counting wrong answers, packing names, looking at whole objects. */
+final class Kit {
+    private static int wrong = 0;
+    private static int checked = 0;
+
+    private Kit() {
+    }
+
+    static void due(String call, long got, long want) {
+        checked++;
+        if (got != want) {
+            wrong++;
+            System.out.println(call + " answered " + got + ", due is " + want);
+        }
+    }
+
+    static void due(String what, String got, String want) {
+        checked++;
+        if (!got.equals(want)) {
+            wrong++;
+            System.out.println(what + " is\n  " + got + "\ndue is\n  " + want);
+        }
+    }
+
+    /** The call answers the error and changes nothing that can be seen. */
+    static void refused(TarArchive x, String call, IntSupplier made, int error) {
+        String before = all(x);
+        due(call, made.getAsInt(), error);
+        due("the object after the refused " + call, all(x), before);
+    }
+
+    static void end(Class<?> test) {
+        System.out.println(test.getSimpleName() + ": " + checked + " checks, " + wrong + " wrong");
+        if (wrong != 0 || checked == 0) {
+            System.exit(1);
+        }
+    }
+
+    static int name(String text) {
+        int packed = 0;
+        for (int k = 0; k < text.length(); k++) {
+            packed |= text.charAt(k) << (8 * k);
+        }
+        return packed;
+    }
+
+    static int dir(TarArchive x, int parent, String name) {
+        return x.addNode(parent, TarArchive.KIND_DIR, name(name), 0755);
+    }
+
+    static int file(TarArchive x, int parent, String name) {
+        return x.addNode(parent, TarArchive.KIND_FILE, name(name), 0644);
+    }
+
+    static int link(TarArchive x, int parent, String name, int target) {
+        return x.addNode(parent, TarArchive.KIND_LINK, name(name), target);
+    }
+
+    static void fill(TarArchive x, int node, int size) {
+        for (int k = 0; k < size; k++) {
+            x.appendData(node, (k * 37 + node + 1) & 255);
+        }
+    }
+
+    static String tree(TarArchive x, int t) {
+        StringBuilder s = new StringBuilder();
+        int count = x.nodeCount(t);
+        s.append(count).append(':');
+        for (int i = 0; i < count; i++) {
+            s.append(" [");
+            for (int what = 0; what <= 5; what++) {
+                s.append(x.nodeInfo(t, i, what)).append(' ');
+            }
+            s.append('|');
+            int size = x.nodeInfo(t, i, TarArchive.INFO_SIZE);
+            for (int k = -1; k <= size; k++) {
+                s.append(' ').append(x.nodeByte(t, i, k));
+            }
+            s.append(']');
+        }
+        return s.toString();
+    }
+
+    static String archive(TarArchive x) {
+        StringBuilder s = new StringBuilder();
+        int length = x.archiveLength();
+        s.append(length).append(':');
+        for (int pos = 0; pos <= length; pos++) {
+            s.append(' ').append(x.archiveByte(pos));
+        }
+        return s.toString();
+    }
+
+    static String all(TarArchive x) {
+        return tree(x, 0) + " / " + tree(x, 1) + " / " + archive(x) + " / " + x.errorBlock();
+    }
+
+    /** Everything but the extracted tree and errorBlock(): what extract() must leave alone. */
+    static String besideExtracted(TarArchive x) {
+        return tree(x, 0) + " / " + archive(x);
+    }
+
+    /** A header block made by hand, with its checksum. */
+    static int[] header(String path, int type, int size, String link) {
+        int[] block = new int[64];
+        put(block, 0, path);
+        put(block, 12, "644");
+        put(block, 16, String.format("%03o", size));
+        block[26] = type;
+        put(block, 27, link);
+        put(block, 39, "ustar\00000");
+        return seal(block);
+    }
+
+    static int[] put(int[] block, int at, String text) {
+        for (int k = 0; k < text.length(); k++) {
+            block[at + k] = text.charAt(k);
+        }
+        return block;
+    }
+
+    static int[] seal(int[] block) {
+        put(block, 20, String.format("%05o", checksum(block)));
+        block[25] = 0;
+        return block;
+    }
+
+    static int checksum(int[] block) {
+        int sum = 0;
+        for (int k = 0; k < 64; k++) {
+            sum += k >= 20 && k <= 25 ? 32 : block[k];
+        }
+        return sum;
+    }
+
+    static int[] blockAt(TarArchive x, int b) {
+        int[] block = new int[64];
+        for (int k = 0; k < 64; k++) {
+            block[k] = x.archiveByte(64 * b + k);
+        }
+        return block;
+    }
+
+    /** Makes the archive these blocks, whatever it was. */
+    static void load(TarArchive x, int[]... blocks) {
+        x.truncateArchive(0);
+        for (int[] block : blocks) {
+            feed(x, block);
+        }
+    }
+
+    static void feed(TarArchive x, int[] bytes) {
+        for (int value : bytes) {
+            x.appendArchive(value);
+        }
+    }
+
+    static int[] zeros() {
+        return new int[64];
+    }
+}
