@@ -1,7 +1,5 @@
 /** Promise 5: extract() over archives made by hand, and errorBlock(). */
-public final class ExtractTest {
-    private static final int[] END = Kit.zeros();
-
+public final class ExtractTest extends Blocks {
     public static void main(String[] args) {
         ends();
         checksums();
@@ -19,53 +17,6 @@ public final class ExtractTest {
         nodesMade();
         errorBlockOverTime();
         Kit.end(ExtractTest.class);
-    }
-
-    /** Extracts these blocks and checks the answer, errorBlock() and the nodes that remain. */
-    private static TarArchive read(String what, int want, int block, int nodes, int[]... blocks) {
-        TarArchive x = new TarArchive(8, 12);
-        Kit.file(x, -1, "src");
-        Kit.load(x, blocks);
-        extract(x, what, want, block, nodes);
-        return x;
-    }
-
-    private static void extract(TarArchive x, String what, int want, int block, int nodes) {
-        String beside = Kit.besideExtracted(x);
-        Kit.due("extract() with " + what, x.extract(), want);
-        Kit.due("errorBlock() with " + what, x.errorBlock(), block);
-        Kit.due("nodeCount(1) with " + what, x.nodeCount(1), nodes);
-        Kit.due("archive and source with " + what, Kit.besideExtracted(x), beside);
-    }
-
-    private static int[] dir(String path) {
-        return Kit.header(path, '5', 0, "");
-    }
-
-    private static int[] file(String path, int size) {
-        return Kit.header(path, '0', size, "");
-    }
-
-    private static int[] link(String path, String target) {
-        return Kit.header(path, '1', 0, target);
-    }
-
-    /** The header with one byte changed and the checksum made right again. */
-    private static int[] with(int[] header, int at, int value) {
-        int[] block = header.clone();
-        block[at] = value;
-        return Kit.seal(block);
-    }
-
-    private static int[] withText(int[] header, int at, String text) {
-        return Kit.seal(Kit.put(header.clone(), at, text));
-    }
-
-    /** A block of which only the byte at this place is not 0. */
-    private static int[] speck(int at) {
-        int[] block = Kit.zeros();
-        block[at] = 1;
-        return block;
     }
 
     private static void ends() {

@@ -31,6 +31,14 @@ final class Kit {
         due("the object after the refused " + call, all(x), before);
     }
 
+    static int checked() {
+        return checked;
+    }
+
+    static int wrong() {
+        return wrong;
+    }
+
     static void end(Class<?> test) {
         System.out.println(test.getSimpleName() + ": " + checked + " checks, " + wrong + " wrong");
         if (wrong != 0 || checked == 0) {
@@ -62,6 +70,33 @@ final class Kit {
         for (int k = 0; k < size; k++) {
             x.appendData(node, (k * 37 + node + 1) & 255);
         }
+    }
+
+    /** A chain of DIRs down this path, each in the one before. */
+    static TarArchive chain(String path) {
+        TarArchive x = new TarArchive(8, 12);
+        String[] names = path.split("/");
+        for (int i = 0; i < names.length; i++) {
+            due("addNode of " + names[i], dir(x, i - 1, names[i]), i);
+        }
+        return x;
+    }
+
+    /** An object of which every part holds something of its own: 4 nodes, 3 extracted ones, 301 bytes, block 4. */
+    static TarArchive busy() {
+        TarArchive x = new TarArchive(8, 12);
+        dir(x, -1, "d");
+        file(x, 0, "f");
+        link(x, -1, "l", 1);
+        fill(x, 1, 3);
+        x.create();
+        x.truncateArchive(300);
+        x.extract();
+        file(x, 0, "e");
+        fill(x, 3, 2);
+        fill(x, 1, 1);
+        x.appendArchive(7);
+        return x;
     }
 
     static String tree(TarArchive x, int t) {

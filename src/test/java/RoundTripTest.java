@@ -10,11 +10,11 @@ public final class RoundTripTest {
         Kit.end(RoundTripTest.class);
     }
 
-    private static TarArchive empty() {
+    static TarArchive empty() {
         return new TarArchive(2, 4);
     }
 
-    private static TarArchive flat() {
+    static TarArchive flat() {
         TarArchive x = new TarArchive(8, 12);
         for (int i = 0; i < 5; i++) {
             x.addNode(-1, TarArchive.KIND_FILE, Kit.name("f" + i), 73 * i);
@@ -23,7 +23,7 @@ public final class RoundTripTest {
         return x;
     }
 
-    private static TarArchive deep() {
+    static TarArchive deep() {
         TarArchive x = new TarArchive(8, 12);
         String[] names = {"abc", "def", "gh", "ijkl", "mn"};
         for (int i = 0; i < names.length; i++) {
@@ -34,7 +34,7 @@ public final class RoundTripTest {
         return x;
     }
 
-    private static TarArchive linked() {
+    static TarArchive linked() {
         TarArchive x = new TarArchive(8, 12);
         Kit.dir(x, -1, "abcd");
         Kit.dir(x, 0, "efgh");
@@ -47,7 +47,7 @@ public final class RoundTripTest {
         return x;
     }
 
-    private static TarArchive crowded() {
+    static TarArchive crowded() {
         TarArchive x = new TarArchive(8, 12);
         Kit.file(x, -1, "a");
         Kit.dir(x, -1, "b");
@@ -92,7 +92,7 @@ public final class RoundTripTest {
         }
     }
 
-    private static boolean[] contentBytes(TarArchive x) {
+    static boolean[] contentBytes(TarArchive x) {
         boolean[] content = new boolean[x.archiveLength()];
         int at = 0;
         for (int i = 0; i < x.nodeCount(0); i++) {
