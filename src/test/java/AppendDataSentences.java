@@ -40,10 +40,10 @@ final class AppendDataSentences extends Sentences {
     private static void appends() {
         TarArchive x = five();
         x.appendData(1, 10);
-        x.appendData(3, 11);
-        x.appendData(4, 12);
+        x.appendData(3, 0);
+        x.appendData(4, 255);
         x.appendData(2, 13);
-        String shared = "| -2 10 11 12 -2]";
+        String shared = "| -2 10 0 255 -2]";
         Kit.due("the tree", Kit.tree(x, 0), "5: [3 -1 100 493 0 -1 | -2 -2] [1 0 102 420 3 -1 " + shared
             + " [1 -1 103 420 1 -1 | -2 13 -2] [2 -1 108 420 3 1 " + shared + " [2 0 109 420 3 1 " + shared);
     }
@@ -114,7 +114,7 @@ final class AppendDataSentences extends Sentences {
         refused(x, 0, 1, TarArchive.ERR_KIND);
         refused(x, 1, 256, TarArchive.ERR_ARG);
         refused(x, 2, -1, TarArchive.ERR_ARG);
-        Kit.fill(x, 1, 32);
+        Kit.fill(x, 1, 28);
         refused(x, 1, 1, TarArchive.ERR_FULL);
         refused(x, 2, 1, TarArchive.ERR_FULL);
     }

@@ -415,6 +415,15 @@ final class CreateSentences extends Sentences {
         for (int i = 0; i < 5; i++) {
             dueBytes("linkname of " + i, x, FIVE_AT[i] + 27, field(want[i], 12));
         }
+        for (int length = 1; length <= 12; length++) {
+            String path = pathOf(length);
+            int slash = path.lastIndexOf('/');
+            TarArchive y = slash < 0 ? new TarArchive(8, 12) : Kit.chain(path.substring(0, slash));
+            int target = Kit.file(y, y.nodeCount(0) - 1, path.substring(slash + 1));
+            int link = Kit.link(y, -1, "zz", target);
+            y.create();
+            dueBytes("linkname of " + length, y, 64 * link + 27, field(path, 12));
+        }
     }
 
     private static void constantBytes() {

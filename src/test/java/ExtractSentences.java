@@ -95,10 +95,13 @@ final class ExtractSentences extends Sentences {
         Kit.feed(x, END);
         Kit.feed(x, END);
         extract(x, "a full archive", 6, -1, 6);
-        x.pokeArchive(767, 1);
-        extract(x, "byte 767", TarArchive.ERR_BAD_END, 11, 6);
-        x.pokeArchive(703, 1);
-        extract(x, "byte 703", TarArchive.ERR_CHECKSUM, 10, 6);
+        for (int pos = 640; pos < 768; pos++) {
+            x.pokeArchive(pos, 1);
+            extract(x, "byte " + pos, pos < 704 ? TarArchive.ERR_CHECKSUM : TarArchive.ERR_BAD_END, pos / 64, 6);
+            x.pokeArchive(pos, 0);
+        }
+        x.pokeArchive(0, 'g');
+        extract(x, "byte 0", TarArchive.ERR_CHECKSUM, 0, 0);
     }
 
     /** Every set of faults that one header and its data can have: the first of them answers. */
@@ -112,6 +115,13 @@ final class ExtractSentences extends Sentences {
             extract(x, "the faults " + Integer.toBinaryString(faults), errors[first], first < 10 ? 2 : 3, 2);
         }
         extract(faulty(0), "no fault", 3, -1, 3);
+        // The first header of an archive as long as can be is read first.
+        TarArchive x = new TarArchive(8, 12);
+        for (int i = 0; i < 12; i++) {
+            Kit.feed(x, dir("d" + i));
+        }
+        x.pokeArchive(0, 'e');
+        extract(x, "a fault in the first block", TarArchive.ERR_CHECKSUM, 0, 0);
         TarArchive cut = faulty((1 << 10) - 1);
         cut.truncateArchive(3 * 64 - 1);
         extract(cut, "every fault of a header, and the header cut", TarArchive.ERR_TRUNCATED, 2, 2);
@@ -346,6 +356,8 @@ final class ExtractSentences extends Sentences {
         for (String prefix : new String[] {"/", "/0", "0/", "0//1", "A", ".", "abcde", "abcdefghij", "0/0/0/0/0/", "\u00b0"}) {
             stops("the prefix " + prefix, TarArchive.ERR_NAME, withText(dir("a"), 47, prefix));
         }
+        read("6 components", 6, -1, 6, dir("a"), dir("a/b"), dir("a/b/c"), withText(dir("c/d"), 47, "a/b"), dir("a/b/c/d/e"),
+            dir("a/b/c/d/e/f"), END, END);
         stops("7 components", TarArchive.ERR_NAME, withText(dir("a/b/c/d/e/f"), 47, "0"));
         stops("7 components, split late", TarArchive.ERR_NAME, withText(dir("e/f"), 47, "0/a/b/c/d"));
         stops("11 components", TarArchive.ERR_NAME, withText(dir("a/b/c/d/e/f"), 47, "0/a/b/c/d"));
@@ -403,6 +415,7 @@ final class ExtractSentences extends Sentences {
         read("a LINK", TarArchive.ERR_PARENT, 2, 2, file("a", 0), link("l", "a"), dir("l/b"), END, END);
         read("only the DIR above it", TarArchive.ERR_PARENT, 1, 1, dir("a"), dir("a/b/c"), END, END);
         read("a DIR of that name elsewhere", TarArchive.ERR_PARENT, 2, 2, dir("a"), dir("a/b"), dir("b/c"), END, END);
+        read("a DIR of its last name", TarArchive.ERR_PARENT, 2, 2, dir("a"), dir("b"), dir("a/b/c"), END, END);
         read("a DIR of a longer name", TarArchive.ERR_PARENT, 1, 1, dir("ab"), dir("a/c"), END, END);
         read("a DIR of a shorter name", TarArchive.ERR_PARENT, 1, 1, dir("a"), dir("ab/c"), END, END);
         read("a DIR that comes later", TarArchive.ERR_PARENT, 0, 0, dir("a/b"), dir("a"), END, END);

@@ -2,6 +2,9 @@ import java.util.function.IntSupplier;
 
 /** What the tests share: counting wrong answers, packing names, looking at whole objects. */
 final class Kit {
+    private static final int[][] BUSY_ARCHIVE = {header("x", '0', 3, ""), put(zeros(), 0, "\u00ff\0\t"), header("y", '5', 0, ""),
+        header("y/z", '1', 0, "x"), put(new int[45], 41, "busy")};
+
     private static int wrong = 0;
     private static int checked = 0;
 
@@ -82,21 +85,58 @@ final class Kit {
         return x;
     }
 
-    /** An object of which every part holds something of its own: 4 nodes, 3 extracted ones, 301 bytes, block 4. */
+    /**
+     * An object of which every part holds something of its own: 4 source nodes, 3 other extracted ones, 301 bytes and
+     * block 4. It is held against what it must be, so that no call that builds it hides what the call changes besides.
+     */
     static TarArchive busy() {
         TarArchive x = new TarArchive(8, 12);
         dir(x, -1, "d");
         file(x, 0, "f");
         link(x, -1, "l", 1);
-        fill(x, 1, 3);
+        fill(x, 1, 4);
         x.create();
-        x.truncateArchive(300);
+        load(x, BUSY_ARCHIVE);
         x.extract();
-        file(x, 0, "e");
+        x.addNode(0, TarArchive.KIND_FILE, 'e', 0600);
         fill(x, 3, 2);
-        fill(x, 1, 1);
-        x.appendArchive(7);
+        due("the busy object", all(x), busyState());
+        // The second look shows what the getters of the first one have changed.
+        due("the busy object again", all(x), busyState());
         return x;
+    }
+
+    private static String busyState() {
+        String source = "4: [3 -1 100 493 0 -1 | -2 -2] [1 0 102 420 4 -1 | -2 2 39 76 113 -2] "
+            + "[2 -1 108 420 4 1 | -2 2 39 76 113 -2] [1 0 101 384 2 -1 | -2 4 41 -2]";
+        String extracted = "3: [1 -1 120 420 3 -1 | -2 255 0 9 -2] [3 -1 121 420 0 -1 | -2 -2] [2 1 122 420 3 0 | -2 255 0 9 -2]";
+        StringBuilder archive = new StringBuilder("301:");
+        for (int[] block : BUSY_ARCHIVE) {
+            for (int value : block) {
+                archive.append(' ').append(value);
+            }
+        }
+        return source + " / " + extracted + " / " + archive + " -2 / 4";
+    }
+
+    /** What the getters answer in their ranges, without any call that is refused. */
+    static String answers(TarArchive x) {
+        StringBuilder s = new StringBuilder();
+        for (int t = 0; t <= 1; t++) {
+            for (int i = 0; i < x.nodeCount(t); i++) {
+                for (int what = 0; what <= 5; what++) {
+                    s.append(x.nodeInfo(t, i, what)).append(' ');
+                }
+                for (int k = 0; k < x.nodeInfo(t, i, TarArchive.INFO_SIZE); k++) {
+                    s.append(x.nodeByte(t, i, k)).append(' ');
+                }
+            }
+            s.append("/ ");
+        }
+        for (int pos = 0; pos < x.archiveLength(); pos++) {
+            s.append(x.archiveByte(pos)).append(' ');
+        }
+        return s.append("/ ").append(x.errorBlock()).toString();
     }
 
     static String tree(TarArchive x, int t) {

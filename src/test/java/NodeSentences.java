@@ -21,7 +21,8 @@ final class NodeSentences extends Sentences {
 
     private static void items() {
         section("Promise 11: nodeInfo");
-        says("`nodeInfo(t, i, what)` answers item what (one of the `INFO_` constants) of node i of tree t.", NodeSentences::eachItem);
+        says("`nodeInfo(t, i, what)` answers item what (one of the `INFO_` constants) of node i of tree t.",
+            NodeSentences::eachItem);
         says("If t is not 0 or 1,", NodeSentences::noTreeInfo);
         says("or i is not in 0..count-1 of that tree,", NodeSentences::noNodeInfo);
         says("or what is not in 0..5: `ERR_ARG`.", NodeSentences::noItem);
@@ -31,8 +32,10 @@ final class NodeSentences extends Sentences {
         says("`INFO_NAME`: the packed name, in the canonical form (bytes after the name's length are 0).", NodeSentences::names);
         says("`INFO_MODE`: the mode; for a LINK, its target's mode.",
             () -> item(TarArchive.INFO_MODE, 511, 0604, 0604, 0, 0, 0750));
-        says("`INFO_SIZE`: the content size; DIR: 0; LINK: its target's size.", () -> item(TarArchive.INFO_SIZE, 0, 32, 32, 0, 0, 0));
-        says("`INFO_LINK`: for a LINK, its target's index; otherwise -1.", () -> item(TarArchive.INFO_LINK, -1, -1, 1, -1, 3, -1));
+        says("`INFO_SIZE`: the content size; DIR: 0; LINK: its target's size.",
+            () -> item(TarArchive.INFO_SIZE, 0, 32, 32, 0, 0, 0));
+        says("`INFO_LINK`: for a LINK, its target's index; otherwise -1.",
+            () -> item(TarArchive.INFO_LINK, -1, -1, 1, -1, 3, -1));
         says("It changes nothing.", NodeSentences::infoGetter);
     }
 
@@ -112,8 +115,8 @@ final class NodeSentences extends Sentences {
     private static void eachItem() {
         TarArchive x = uneven();
         int[][][] want = {
-            {{3, -1, 'd', 0755, 0, -1}, {1, 0, 'f', 0644, 4, -1}, {2, -1, 'l', 0644, 4, 1}, {1, 0, 'e', 0644, 2, -1}},
-            {{3, -1, 'd', 0755, 0, -1}, {1, 0, 'f', 0644, 3, -1}, {2, -1, 'l', 0644, 3, 1}}};
+            {{3, -1, 'd', 0755, 0, -1}, {1, 0, 'f', 0644, 4, -1}, {2, -1, 'l', 0644, 4, 1}, {1, 0, 'e', 0600, 2, -1}},
+            {{1, -1, 'x', 0644, 3, -1}, {3, -1, 'y', 0644, 0, -1}, {2, 1, 'z', 0644, 3, 0}}};
         for (int t = 0; t <= 1; t++) {
             for (int i = 0; i < want[t].length; i++) {
                 for (int what = 0; what <= 5; what++) {
@@ -215,15 +218,15 @@ final class NodeSentences extends Sentences {
                 Kit.due("nodeByte(" + t + ", 1, " + k + ")", x.nodeByte(t, 1, k), content(k));
             }
         }
+        // The trees have each their own bytes, at the same indices.
         TarArchive x = new TarArchive(2, 4);
         Kit.file(x, -1, "f");
         x.appendData(0, 0);
         x.appendData(0, 255);
-        x.create();
+        Kit.load(x, file("f", 2), Kit.put(Kit.zeros(), 0, "\u00c8\u0080"), END, END);
         x.extract();
-        x.appendData(0, 128);
-        Kit.due("source bytes", Kit.tree(x, 0), "1: [1 -1 102 420 3 -1 | -2 0 255 128 -2]");
-        Kit.due("extracted bytes", Kit.tree(x, 1), "1: [1 -1 102 420 2 -1 | -2 0 255 -2]");
+        Kit.due("source bytes", Kit.tree(x, 0), "1: [1 -1 102 420 2 -1 | -2 0 255 -2]");
+        Kit.due("extracted bytes", Kit.tree(x, 1), "1: [1 -1 102 420 2 -1 | -2 200 128 -2]");
     }
 
     private static void linkBytes() {

@@ -76,7 +76,9 @@ final class StopSentences extends Sentences {
             Kit.due("extract()", x.extract(), 1);
             Kit.due("errorBlock() after a success", x.errorBlock(), -1);
         }
-        Kit.load(x, END, END);
+        Kit.load(x, END);
+        Kit.due("extract() of half an end", x.extract(), TarArchive.ERR_TRUNCATED);
+        Kit.feed(x, END);
         Kit.due("extract() of no node", x.extract(), 0);
         Kit.due("errorBlock() after it", x.errorBlock(), -1);
     }

@@ -88,6 +88,8 @@ final class TreeSentences extends Sentences {
         }
         Kit.due("addNode under a DIR", x.addNode(0, DIR, 'c', 0), 3);
         Kit.due("its parent", x.nodeInfo(0, 3, TarArchive.INFO_PARENT), 0);
+        read("a child of a FILE", TarArchive.ERR_PARENT, 1, 1, file("a", 0), dir("a/c"), END, END);
+        read("a child of a LINK", TarArchive.ERR_PARENT, 2, 2, file("a", 0), link("l", "a"), dir("l/c"), END, END);
         read("a child before its DIR", TarArchive.ERR_PARENT, 0, 0, dir("a/c"), dir("a"), END, END);
         TarArchive y = read("a child after its DIR", 3, -1, 3, dir("b"), dir("a"), dir("a/c"), END, END);
         Kit.due("its parent", y.nodeInfo(1, 2, TarArchive.INFO_PARENT), 1);
@@ -168,6 +170,9 @@ final class TreeSentences extends Sentences {
             Kit.due("target of 2, tree " + t, x.nodeInfo(t, 2, TarArchive.INFO_LINK), 1);
             Kit.due("target of 3, tree " + t, x.nodeInfo(t, 3, TarArchive.INFO_LINK), 1);
         }
+        TarArchive y = read("a LINK to a LINK", 3, -1, 3, file("f", 0), link("l", "f"), link("m", "l"), END, END);
+        Kit.due("target of 2", y.nodeInfo(1, 2, TarArchive.INFO_LINK), 0);
+        read("a LINK to a DIR", TarArchive.ERR_LINK, 1, 1, dir("d"), link("l", "d"), END, END);
         read("a LINK to itself", TarArchive.ERR_LINK, 1, 1, dir("d"), link("l", "l"), END, END);
         read("a LINK to a later FILE", TarArchive.ERR_LINK, 0, 0, link("l", "f"), file("f", 0), END, END);
     }

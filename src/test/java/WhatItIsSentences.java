@@ -78,6 +78,8 @@ final class WhatItIsSentences extends Sentences {
             }
             Kit.due("create() of a full archive", x.create(), maxBlocks);
             Kit.due("archiveLength()", x.archiveLength(), 64 * maxBlocks);
+            x.truncateArchive(64 * maxBlocks - 1);
+            Kit.due("appendArchive(0) up to the end", x.appendArchive(0), 64 * maxBlocks);
             Kit.refused(x, "appendArchive(0) past the end", () -> x.appendArchive(0), TarArchive.ERR_FULL);
             x.appendData(7 % x.nodeCount(0), 1);
             Kit.refused(x, "create() of a block more", x::create, TarArchive.ERR_ARCHIVE_FULL);
@@ -109,7 +111,7 @@ final class WhatItIsSentences extends Sentences {
         for (ToIntFunction<TarArchive> call : calls) {
             refuseEach(x);
             Kit.due("an answer after refused calls", call.applyAsInt(x), call.applyAsInt(plain));
-            Kit.due("an object after refused calls", Kit.all(x), Kit.all(plain));
+            Kit.due("an object after refused calls", Kit.answers(x), Kit.answers(plain));
         }
     }
 
