@@ -14,7 +14,8 @@ final class CreateSentences extends Sentences {
         says("If p <= `NAME_LEN`, then name = P and prefix is empty.", CreateSentences::wholeNames);
         says("Otherwise let s be the least position with P[s] == '/'", CreateSentences::leastSlash);
         says("and p-s-1 <= `NAME_LEN`.", CreateSentences::longestName);
-        // That there is no such s never comes to pass: the last name has 4 bytes at most.
+        // This never comes to pass: behind the last slash stand 4 bytes at most.
+        onlyLeads("If there is no such s,");
         says("or s > `PREFIX_LEN`, the answer is `ERR_NAME_TOO_LONG`.", CreateSentences::longestPrefix);
         says("Otherwise prefix = P[0..s-1] and name = P[s+1..p-1].", CreateSentences::splitText);
         says("Then, if i is a LINK and its target's path is longer than `LINK_LEN`, the answer is `ERR_NAME_TOO_LONG`.",

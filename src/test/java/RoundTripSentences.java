@@ -11,10 +11,10 @@ final class RoundTripSentences extends Sentences {
             + "every k, `nodeInfo(1,i,what)` == `nodeInfo(0,i,what)` and `nodeByte(1,i,k)` == `nodeByte(0,i,k)`.",
             RoundTripSentences::equalTrees);
         says("Names, kinds, parents, modes, contents and hard-link target indices are all equal.", RoundTripSentences::equalNodes);
-        says("exactly one `pokeArchive(p,v)` is made with p in 0..L-1 and v in 0..255, where v differs from the byte at p, and p "
-            + "is not among the first s bytes of the data block that directly follows the header of a FILE with content size s, "
-            + "and the next call other than a getter is `extract()`, then that `extract()` answers a negative code.",
-            RoundTripSentences::spoilt);
+        says("Moreover, if after a successful `create()`, with only getter calls in between, exactly one `pokeArchive(p,v)` is "
+            + "made with p in 0..L-1 and v in 0..255, where v differs from the byte at p, and p is not among the first s bytes "
+            + "of the data block that directly follows the header of a FILE with content size s, and the next call other than a "
+            + "getter is `extract()`, then that `extract()` answers a negative code.", RoundTripSentences::spoilt);
         says("This holds for any header byte,", RoundTripSentences::headerBytes);
         says("any padding byte", RoundTripSentences::paddingBytes);
         says("and any byte of the two end blocks.", RoundTripSentences::endBytes);
@@ -94,7 +94,9 @@ final class RoundTripSentences extends Sentences {
         for (int value = old % step; value < 256; value += step) {
             if (value != old) {
                 x.create();
+                Kit.due("a getter in between", x.archiveByte(pos), old);
                 x.pokeArchive(pos, value);
+                Kit.due("another getter in between", x.archiveByte(pos), value);
                 Kit.due("extract() with byte " + pos + " = " + value + " answers an error", x.extract() < 0 ? 1 : 0, 1);
             }
         }

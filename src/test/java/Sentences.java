@@ -32,13 +32,20 @@ class Sentences extends Blocks {
         }
     }
 
-    /** A sentence that leads to others and asks for nothing itself. */
-    static void onlyLeads(String sentence) {
-        QUOTED.get(section).add(sentence);
+    /** Words that lead to others and ask for nothing themselves. */
+    static void onlyLeads(String quote) {
+        QUOTED.get(section).add(quote);
     }
 
-    static boolean isQuoted(String title, String sentence) {
-        return QUOTED.getOrDefault(title, List.of()).stream().anyMatch(q -> sentence.contains(q) || q.contains(sentence));
+    /** What of a paragraph of this section no test stands under. */
+    static String unquoted(String title, String paragraph) {
+        StringBuilder left = new StringBuilder(paragraph);
+        for (String quote : QUOTED.getOrDefault(title, List.of())) {
+            for (int at = paragraph.indexOf(quote); at >= 0; at = paragraph.indexOf(quote, at + 1)) {
+                left.replace(at, at + quote.length(), " ".repeat(quote.length()));
+            }
+        }
+        return left.toString().strip();
     }
 
     static Map<String, List<String>> quoted() {

@@ -26,30 +26,30 @@ public final class SentencesTest {
         Kit.end(SentencesTest.class);
     }
 
-    /** No sentence of the document is left out, and none is quoted that does not stand there. */
+    /** No word of the document is left out, and none is quoted that does not stand there. */
     private static void compareWithDocument() throws IOException {
         Map<String, List<String>> document = document();
         Kit.due("sections of the document, What it is to Promise 12", document.size(), 16);
-        document.forEach((title, sentences) -> sentences.forEach(sentence ->
-            Kit.due("untested, " + title + ": " + sentence, Sentences.isQuoted(title, sentence) ? 0 : 1, 0)));
+        document.forEach((title, paragraphs) -> paragraphs.forEach(paragraph ->
+            Kit.due("what is untested in " + title, Sentences.unquoted(title, paragraph), "")));
         Sentences.quoted().forEach((title, quotes) -> {
             String text = String.join(" ", document.getOrDefault(title, List.of()));
             quotes.forEach(quote -> Kit.due("misquoted, " + title + ": " + quote, text.contains(quote) ? 0 : 1, 0));
         });
     }
 
+    /** The paragraphs and list items of each section. */
     private static Map<String, List<String>> document() throws IOException {
         Map<String, List<String>> sections = new TreeMap<>();
-        List<String> sentences = new ArrayList<>();
+        List<String> paragraphs = new ArrayList<>();
         String text = Files.readString(Path.of("../shared/DOC.md")).replaceAll("(?s)```.*?```", "");
         for (String line : text.split("\n")) {
             if (line.startsWith("#")) {
-                sentences = new ArrayList<>();
-                sections.put(line.replaceAll("^#+ *", ""), sentences);
+                paragraphs = new ArrayList<>();
+                sections.put(line.replaceAll("^#+ *", ""), paragraphs);
             } else if (!line.isBlank()) {
                 // A list item's mark is no part of its sentence.
-                String plain = line.strip().replaceAll("^(- |\\d+\\. )", "");
-                sentences.addAll(List.of(plain.split("(?<=\\.) +")));
+                paragraphs.add(line.strip().replaceAll("^(- |\\d+\\. )", ""));
             }
         }
         sections.keySet().removeIf(title -> !title.matches("What it is|Trees|Names and paths|Header block|Promise \\d+: .*"));

@@ -27,6 +27,7 @@ final class WhatItIsSentences extends Sentences {
         onlyLeads("The object holds two trees and one archive:");
         says("The SOURCE tree (t = 0), built by `addNode` and `appendData`.", WhatItIsSentences::sourceTree);
         says("The EXTRACTED tree (t = 1), rebuilt by `extract()`.", WhatItIsSentences::rebuiltTree);
+        onlyLeads("The ARCHIVE, a byte buffer of length L,");
         says("with 0 <= L", WhatItIsSentences::emptyArchive);
         says("L <= 64*maxBlocks.", WhatItIsSentences::fullArchive);
         says("It is written by `create()` and edited by `pokeArchive`, `truncateArchive` and `appendArchive`.",
