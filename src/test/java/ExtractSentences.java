@@ -39,7 +39,7 @@ final class ExtractSentences extends Sentences {
             ExtractSentences::linknames);
         says("For a FILE with size > 0: if 64*(b+2) > L: `ERR_TRUNCATED` at b+1;", ExtractSentences::noData);
         says("if bytes size..63 of block b+1 are not all 0: `ERR_PADDING` at b+1.", ExtractSentences::padding);
-        onlyLeads("Then a node is appended to the extracted tree:");
+        says("Then a node is appended to the extracted tree:", ExtractSentences::appended);
         says("kind by typeflag;", ExtractSentences::kinds);
         says("parent = the index of the parent DIR, or -1;", ExtractSentences::madeParents);
         says("name = the last path component, packed;", ExtractSentences::madeNames);
@@ -105,7 +105,7 @@ final class ExtractSentences extends Sentences {
     }
 
     /** Every set of faults that one header and its data can have: the first of them answers. */
-    private static void order() {
+    static void order() {
         int[] errors = {TarArchive.ERR_CHECKSUM, TarArchive.ERR_MAGIC, TarArchive.ERR_TYPE, TarArchive.ERR_FIELD,
             TarArchive.ERR_TOO_BIG, TarArchive.ERR_NAME, TarArchive.ERR_TOO_MANY, TarArchive.ERR_PARENT,
             TarArchive.ERR_DUPLICATE, TarArchive.ERR_LINK, TarArchive.ERR_TRUNCATED, TarArchive.ERR_PADDING};
@@ -468,6 +468,14 @@ final class ExtractSentences extends Sentences {
             read("the linkname '" + target + "'", 5, -1, 5, dir("d"), file("d/g", 0), link("d/m", "d/g"), file("f", 0),
                 link("l", target), END, END);
         }
+        // No other byte stands for the slash or for a character of the name.
+        for (int c = 1; c <= 255; c++) {
+            for (String target : new String[] {"d" + (char) c + "g", "d/" + (char) c, (char) c + "/g", "" + (char) c}) {
+                boolean there = target.equals("d/g") || target.equals("f");
+                read("the linkname '" + target + "'", there ? 4 : TarArchive.ERR_LINK, there ? -1 : 3, there ? 4 : 3, dir("d"),
+                    file("d/g", 0), file("f", 0), link("l", target), END, END);
+            }
+        }
         // A FILE of the source tree, or of an earlier extraction, is no target.
         TarArchive x = read("a FILE", 1, -1, 1, file("f", 0), END, END);
         Kit.load(x, link("l", "f"), END, END);
@@ -497,6 +505,22 @@ final class ExtractSentences extends Sentences {
                 read("size " + size + ", data byte " + at, error, at < size ? -1 : 2, at < size ? 2 : 1, dir("d"),
                     file("f", size), speck(at), END, END);
             }
+        }
+    }
+
+    /** Each node that is read gets the next index, and leaves those before it as they were. */
+    private static void appended() {
+        int[][] blocks = {dir("d"), file("d/f", 0), link("l", "d/f"), dir("d/d"), file("a", 0), link("d/d/m", "l"), dir("c"),
+            file("z", 0)};
+        String before = "";
+        for (int nodes = 1; nodes <= 8; nodes++) {
+            TarArchive x = new TarArchive(8, 12);
+            Kit.load(x, java.util.Arrays.copyOf(blocks, nodes));
+            extract(x, nodes + " headers without an end", TarArchive.ERR_TRUNCATED, nodes, nodes);
+            String tree = Kit.tree(x, 1).substring(2);
+            Kit.due("the nodes before " + (nodes - 1), tree.substring(0, before.length()), before);
+            Kit.due("the nodes more", tree.substring(before.length()).split("\\[", -1).length - 1, 1);
+            before = tree;
         }
     }
 

@@ -6,13 +6,14 @@ import java.util.List;
 import java.util.Map;
 import java.util.TreeMap;
 
-/** Every sentence of promises 1 to 12 and of the terms they use, each with a test of its own. */
+/** Every sentence of the document, from its first line to its last, each with a test of its own. */
 public final class SentencesTest {
     public static void main(String[] args) throws IOException {
         WhatItIsSentences.run();
         TreeSentences.run();
         NameSentences.run();
         HeaderSentences.run();
+        FaceSentences.run();
         ConstructionSentences.run();
         AddNodeSentences.run();
         AppendDataSentences.run();
@@ -22,6 +23,7 @@ public final class SentencesTest {
         RoundTripSentences.run();
         ArchiveSentences.run();
         NodeSentences.run();
+        NotPromisedSentences.run();
         compareWithDocument();
         Kit.end(SentencesTest.class);
     }
@@ -29,7 +31,7 @@ public final class SentencesTest {
     /** No word of the document is left out, and none is quoted that does not stand there. */
     private static void compareWithDocument() throws IOException {
         Map<String, List<String>> document = document();
-        Kit.due("sections of the document, What it is to Promise 12", document.size(), 16);
+        Kit.due("sections of the document, with its title", document.size(), 19);
         document.forEach((title, paragraphs) -> paragraphs.forEach(paragraph ->
             Kit.due("what is untested in " + title, Sentences.unquoted(title, paragraph), "")));
         Sentences.quoted().forEach((title, quotes) -> {
@@ -42,17 +44,15 @@ public final class SentencesTest {
     private static Map<String, List<String>> document() throws IOException {
         Map<String, List<String>> sections = new TreeMap<>();
         List<String> paragraphs = new ArrayList<>();
-        String text = Files.readString(Path.of("../shared/DOC.md")).replaceAll("(?s)```.*?```", "");
-        for (String line : text.split("\n")) {
+        for (String line : Files.readAllLines(Path.of("../shared/DOC.md"))) {
             if (line.startsWith("#")) {
                 paragraphs = new ArrayList<>();
                 sections.put(line.replaceAll("^#+ *", ""), paragraphs);
-            } else if (!line.isBlank()) {
+            } else if (!line.isBlank() && !line.startsWith("```")) {
                 // A list item's mark is no part of its sentence.
                 paragraphs.add(line.strip().replaceAll("^(- |\\d+\\. )", ""));
             }
         }
-        sections.keySet().removeIf(title -> !title.matches("What it is|Trees|Names and paths|Header block|Promise \\d+: .*"));
         return sections;
     }
 }

@@ -1,3 +1,4 @@
+import java.util.ArrayList;
 import java.util.List;
 import java.util.function.ToIntFunction;
 import java.util.regex.Matcher;
@@ -23,11 +24,12 @@ final class WhatItIsSentences extends Sentences {
 
     static void run() {
         section("What it is");
-        onlyLeads("TarArchive is a miniature ustar archive writer and streaming reader, held entirely in one object.");
-        onlyLeads("The object holds two trees and one archive:");
+        says("TarArchive is a miniature ustar archive writer and streaming reader, held entirely in one object.",
+            WhatItIsSentences::oneObject);
+        says("The object holds two trees and one archive:", WhatItIsSentences::threeParts);
         says("The SOURCE tree (t = 0), built by `addNode` and `appendData`.", WhatItIsSentences::sourceTree);
         says("The EXTRACTED tree (t = 1), rebuilt by `extract()`.", WhatItIsSentences::rebuiltTree);
-        onlyLeads("The ARCHIVE, a byte buffer of length L,");
+        says("The ARCHIVE, a byte buffer of length L,", WhatItIsSentences::buffer);
         says("with 0 <= L", WhatItIsSentences::emptyArchive);
         says("L <= 64*maxBlocks.", WhatItIsSentences::fullArchive);
         says("It is written by `create()` and edited by `pokeArchive`, `truncateArchive` and `appendArchive`.",
@@ -40,6 +42,64 @@ final class WhatItIsSentences extends Sentences {
         says(KINDS, () -> constants(KINDS, 3));
         says(ITEMS, () -> constants(ITEMS, 6));
         says(ERRORS, () -> constants(ERRORS, 20));
+    }
+
+    private static List<ToIntFunction<TarArchive>> calls() {
+        return List.of(
+            x -> x.addNode(-1, TarArchive.KIND_DIR, 'a', 7), x -> x.addNode(0, TarArchive.KIND_FILE, 'f', 8),
+            x -> x.appendData(1, 9), TarArchive::create, TarArchive::extract,
+            x -> x.addNode(-1, TarArchive.KIND_LINK, 'l', 1), x -> x.pokeArchive(3, 4), x -> x.truncateArchive(70),
+            x -> x.appendArchive(5), TarArchive::extract, x -> x.appendData(2, 6), TarArchive::create, TarArchive::extract);
+    }
+
+    /** No object sees anything of another one, whatever the other lives through. */
+    private static void oneObject() {
+        TarArchive alone = new TarArchive(3, 6);
+        List<String> states = new ArrayList<>();
+        for (ToIntFunction<TarArchive> call : calls()) {
+            states.add(call.applyAsInt(alone) + " " + Kit.all(alone));
+        }
+        TarArchive busy = Kit.busy();
+        TarArchive x = new TarArchive(3, 6);
+        String before = Kit.all(busy);
+        for (int i = 0; i < calls().size(); i++) {
+            TarArchive other = RoundTripTest.crowded();
+            other.create();
+            other.extract();
+            Kit.due("call " + i + " among other objects", calls().get(i).applyAsInt(x) + " " + Kit.all(x), states.get(i));
+            Kit.due("another object after call " + i, Kit.all(busy), before);
+        }
+    }
+
+    /** Each of the three parts changes while the two others stay. */
+    private static void threeParts() {
+        TarArchive x = Kit.busy();
+        String source = Kit.tree(x, 0);
+        String extracted = Kit.tree(x, 1);
+        String archive = Kit.archive(x);
+        Kit.due("addNode", x.addNode(-1, TarArchive.KIND_FILE, 'n', 1), 4);
+        Kit.due("the source tree is another", Kit.tree(x, 0).equals(source) ? 1 : 0, 0);
+        Kit.due("the others", Kit.tree(x, 1) + Kit.archive(x), extracted + archive);
+        source = Kit.tree(x, 0);
+        Kit.due("create()", x.create(), 9);
+        Kit.due("the archive is another", Kit.archive(x).equals(archive) ? 1 : 0, 0);
+        Kit.due("the others", Kit.tree(x, 0) + Kit.tree(x, 1), source + extracted);
+        archive = Kit.archive(x);
+        Kit.due("extract()", x.extract(), 5);
+        Kit.due("the extracted tree is another", Kit.tree(x, 1).equals(extracted) ? 1 : 0, 0);
+        Kit.due("the others", Kit.tree(x, 0) + Kit.archive(x), source + archive);
+    }
+
+    private static void buffer() {
+        TarArchive x = new TarArchive(2, 4);
+        for (int length = 0; length <= 256; length++) {
+            Kit.due("archiveLength()", x.archiveLength(), length);
+            for (int pos = 0; pos < length; pos++) {
+                Kit.due("archiveByte(" + pos + ")", x.archiveByte(pos), 255 - pos);
+            }
+            Kit.due("archiveByte(" + length + ")", x.archiveByte(length), TarArchive.ERR_ARG);
+            x.appendArchive(255 - length);
+        }
     }
 
     private static void sourceTree() {
@@ -102,14 +162,9 @@ final class WhatItIsSentences extends Sentences {
 
     /** Two objects live through the same calls, one of them with refused calls before each. */
     private static void refusals() {
-        List<ToIntFunction<TarArchive>> calls = List.of(
-            x -> x.addNode(-1, TarArchive.KIND_DIR, 'a', 7), x -> x.addNode(0, TarArchive.KIND_FILE, 'f', 8),
-            x -> x.appendData(1, 9), TarArchive::create, TarArchive::extract,
-            x -> x.addNode(-1, TarArchive.KIND_LINK, 'l', 1), x -> x.pokeArchive(3, 4), x -> x.truncateArchive(70),
-            x -> x.appendArchive(5), TarArchive::extract, x -> x.appendData(2, 6), TarArchive::create, TarArchive::extract);
         TarArchive plain = new TarArchive(3, 6);
         TarArchive x = new TarArchive(3, 6);
-        for (ToIntFunction<TarArchive> call : calls) {
+        for (ToIntFunction<TarArchive> call : calls()) {
             refuseEach(x);
             Kit.due("an answer after refused calls", call.applyAsInt(x), call.applyAsInt(plain));
             Kit.due("an object after refused calls", Kit.answers(x), Kit.answers(plain));
