@@ -4,7 +4,9 @@ import java.lang.reflect.Field;
 import java.nio.file.Files;
 import java.nio.file.Path;
 import java.util.List;
+import java.util.TreeSet;
 import java.util.function.IntSupplier;
+import java.util.regex.Pattern;
 
 /** The rules of LANGUAGE.md: the class breaks none of them, and a class that broke one would be told. */
 public final class LanguageTest {
@@ -43,7 +45,7 @@ public final class LanguageTest {
     }
 
     private static String replaced(String old, String text) {
-        Kit.due("places of " + old, source.split(java.util.regex.Pattern.quote(old), -1).length - 1, 1);
+        Kit.due("places of " + old, source.split(Pattern.quote(old), -1).length - 1, 1);
         return source.replace(old, text);
     }
 
@@ -138,7 +140,8 @@ public final class LanguageTest {
             "private void q() { for (int i = 0; i < 9; i++) { i--; } }",
             "private void q(int a) { while (a < 9) { if (length > 3) { a++; } } }",
             "private void q(int a) { while (a < 9) { if (length > 3) { continue; } a++; } }",
-            "private void q(int a) { while (a < 9 || length > 3) { a++; } }", "private void q(int a) { do { a--; } while (a < 9); }",
+            "private void q(int a) { while (a < 9 || length > 3) { a++; } }",
+            "private void q(int a) { do { a--; } while (a < 9); }",
             "private void q() { for (int i = 0; i < length; i++) { length++; } }",
             "private void q() { for (int i = 0; i < length; i++) { appendArchive(1); } }",
             "private void q() { for (int i = 0; i < counts[0]; i++) { counts[0]++; } }",
@@ -177,16 +180,18 @@ public final class LanguageTest {
 
     /** Rule 4: the arrays are as long as the document ever allows, and no longer, whatever the capacities. */
     private static void greatestLengths() throws IllegalAccessException {
+        // Two counts, two trees of 8 nodes, a path of six names, 32 bytes for each node, 12 blocks.
+        String greatest = "[2, " + 2 * 8 + ", " + 6 * 5 + ", " + 2 * 8 * 32 + ", " + 12 * 64 + "]";
         for (int any : new int[] {Integer.MIN_VALUE, 5, Integer.MAX_VALUE}) {
             TarArchive x = new TarArchive(any, any);
-            int longest = 0;
+            TreeSet<Integer> lengths = new TreeSet<>();
             for (Field field : TarArchive.class.getDeclaredFields()) {
                 if (field.getType().isArray()) {
                     field.setAccessible(true);
-                    longest = Math.max(longest, Array.getLength(field.get(x)));
+                    lengths.add(Array.getLength(field.get(x)));
                 }
             }
-            Kit.due("the longest array, the archive", longest, 64 * 12);
+            Kit.due("the lengths of the arrays", lengths.toString(), greatest);
         }
     }
 

@@ -10,7 +10,8 @@ import javax.tools.ToolProvider;
 /** README.md: its example, compiled and run, answers what it says, and its table has a row for every call. */
 public final class ReadmeTest {
     // A statement, and behind it the number, character or error that it answers.
-    private static final Pattern LINE = Pattern.compile("(?:int (\\w+) = )?(x\\.\\w+\\(.*\\)); *// ('.'|-?\\d+|ERR_\\w+)(?::.*)?");
+    private static final Pattern LINE =
+        Pattern.compile("(?:int (\\w+) = )?(x\\.\\w+\\(.*\\)); *// ('.'|-?\\d+|ERR_\\w+)(?::.*)?");
 
     public static void main(String[] args) throws IOException, ReflectiveOperationException {
         String readme = Files.readString(Path.of("README.md"));
